@@ -661,4 +661,33 @@ final class PlainModel {
         return new int[] {w.voters.size(), w.measures.size(), texts[0].length(), texts[1].length(), events.size(),
             story(w).passedInAll(), story(w).coatsInAll(), seen.size(), finding}[what];
     }
+
+    long digest() {
+        List<Long> each = new ArrayList<>();
+        for (int what = 0; what <= 7; what++) {
+            each.add((long) count(what));
+        }
+        each.add((long) fault(0));
+        each.add((long) fault(1));
+        World w = world();
+        for (int m = 0; m < w.measures.size(); m++) {
+            add(each, measure(m, 0), measure(m, 1), tally(m, 0), tally(m, 1), tally(m, 2), tally(m, 3), tally(m, 4));
+            add(each, put(m, 0), put(m, 1), chance(5, m, 0), chance(5, m, 1));
+            for (int v = 0; v < w.voters.size(); v++) {
+                each.add((long) said(m, v));
+            }
+        }
+        for (int v = 0; v < w.voters.size(); v++) {
+            add(each, voter(v, 0), voter(v, 1), voter(v, 2), at(v, 0), at(v, 1), at(v, 2), at(v, 3), was(v, 0), was(v, 1));
+        }
+        add(each, sum(0), sum(1), level(), loyal(), bitter(), swap(0), swap(1), swap(2), wish(0), wish(1));
+        add(each, spare(-1), spare(0), might(0), might(1), ask(), ages(7, 9, 0), ages(7, 9, 1));
+        return each.stream().reduce(17L, (h, e) -> 31 * h + e);
+    }
+
+    private static void add(List<Long> each, long... more) {
+        for (long m : more) {
+            each.add(m);
+        }
+    }
 }

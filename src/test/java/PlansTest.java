@@ -22,6 +22,10 @@ public final class PlansTest {
         put("a dog more", Check.canton("", "a0"), 0, 1, 1);
         put("two otherwise", Check.canton("", "a2"), 0, 1, 2);
         put("three otherwise", Check.canton("", "a6"), 0, 1, 3);
+        FoolVotes all = Check.canton("", "a7;a6");
+        all.fool(0, 7);
+        put("the nearest, behind farther ones", all, 0, 7, 0);
+        put("the nearest, behind farther ones", all, 1, 6, 0);
         FoolVotes wide = Check.canton("", "a0");
         wide.fool(0, 6);
         put("of like ones the least", wide, 0, 2, 1);
@@ -105,6 +109,7 @@ public final class PlansTest {
         FoolVotes apple = Check.canton("", "a4");
         apple.event(1, 0, 0);
         wish("an apple", apple, 0, 0);
+        wish("0 serves as well", Check.canton("s10;s10;s10;s10", "a1"), 0, 1);
         FoolVotes light = Check.canton("s00", "a1");
         light.fool(1, 1);
         wish("too light", light, 0, 0);
@@ -147,6 +152,11 @@ public final class PlansTest {
         y.event(0, 0, 0);
         spare("by none", y, -1, -1, -1);
         check.due("spare(2) by none", y.spare(2), FoolVotes.BAD);
+        FoolVotes apples = Check.canton("s12;s00;s00", "a1");
+        apples.event(1, 0, 0);
+        apples.event(0, 3, 0);
+        apples.event(1, 0, 0);
+        spare("the first and the third", apples, 2, 0, 2);
         // either of two events that only together turn him: the least
         FoolVotes z = Check.canton("s11;s00;s00", "a1;b1");
         z.event(1, 1, 0);

@@ -32,10 +32,12 @@ public final class SheetsTest {
         check.due("sheet(3, 2, 60)", x.sheet(3, 2, 60), 60);
         check.due("sheet(0, 1, 0)", x.sheet(0, 1, 0), 0);
         check.due("lay", x.lay(3, 2, 59, 9), 1);
+        check.due("lay", x.lay(3, 2, 0, 9), 1);
         check.due("SIZE changes nothing", x.sheet(3, 0, LEAST), -15);
         check.due("as it was", x.get(3, 2, 59), 9);
         check.due("a new row", x.sheet(3, 2, 60), 60);
         check.due("0 at first", x.get(3, 2, 59), 0);
+        check.due("0 at first", x.get(3, 2, 0), 0);
         check.due("lose(3)", x.lose(3), 60);
         check.due("lose(0)", x.lose(0), 0);
         check.due("lose(0) again", x.lose(0), -11);
@@ -157,6 +159,9 @@ public final class SheetsTest {
         check.due("events, behind those told", x.count(4), 4);
         x.sheet(1, 2, 2);
         check.due("none is whole", x.read(1), 0);
+        x.sheet(1, 2, 3);
+        check.due("just one", x.read(1), 1);
+        check.due("back", x.back(), 4);
         x.sheet(1, 2, 0);
         check.due("none is there", x.read(1), 0);
         check.due("back", x.back(), 3);
@@ -244,6 +249,17 @@ public final class SheetsTest {
         check.due("digest", x.digest(), digestOf(x));
         x.type(0, ';');
         check.due("digest of a fault", x.digest(), digestOf(x));
+        FoolVotes turned = Check.canton("s12;s21;s41;s72;m10", "a1;a2;b4;c7;d6");
+        turned.fool(0, 0);
+        turned.fool(1, 9);
+        turned.event(1, 7, 0);
+        turned.event(2, 0, 4);
+        check.due("digest with coats", turned.digest(), digestOf(turned));
+        FoolVotes spared = Check.canton("s12;s00;s00", "a1;b1");
+        spared.event(0, 5, 0);
+        spared.event(1, 0, 0);
+        check.due("one is to be spared", spared.spare(0), 1);
+        check.due("digest with a spared one", spared.digest(), digestOf(spared));
     }
 
     private static long digestOf(FoolVotes x) {

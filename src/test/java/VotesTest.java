@@ -191,6 +191,10 @@ public final class VotesTest {
         y.fool(1, 9);
         check.due("bitter, the most", y.bitter(), 1);
         check.due("loyal all", y.loyal(), 3);
+        FoolVotes z = Check.canton("s30;s10", "a1;a2");
+        z.fool(0, 0);
+        z.fool(1, 9);
+        check.due("bitter, the first", z.bitter(), 0);
         check.due("bitter nobody", Check.canton("s10", "a1").bitter(), FoolVotes.NONE);
         check.due("loyal nobody", Check.canton("", "a1").loyal(), 0);
     }
