@@ -249,6 +249,8 @@ public final class SheetsTest {
         check.due("digest", x.digest(), digestOf(x));
         x.type(0, ';');
         check.due("digest of a fault", x.digest(), digestOf(x));
+        FoolVotes idle = Check.canton("s12;w20", "");
+        check.due("digest of voters alone", idle.digest(), digestOf(idle));
         FoolVotes turned = Check.canton("s12;s21;s41;s72;m10", "a1;a2;b4;c7;d6");
         turned.fool(0, 0);
         turned.fool(1, 9);
