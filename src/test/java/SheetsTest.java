@@ -265,6 +265,15 @@ public final class SheetsTest {
     }
 
     private static long digestOf(FoolVotes x) {
+        long h = 17;
+        for (long e : partsOfDigest(x)) {
+            h = 31 * h + e;
+        }
+        return h;
+    }
+
+    /** What comes into the digest, in the document's order. */
+    static java.util.List<Long> partsOfDigest(FoolVotes x) {
         java.util.List<Long> each = new java.util.ArrayList<>();
         for (int what = 0; what <= 7; what++) {
             each.add((long) x.count(what));
@@ -302,10 +311,6 @@ public final class SheetsTest {
         for (int e : last) {
             each.add((long) e);
         }
-        long h = 17;
-        for (long e : each) {
-            h = 31 * h + e;
-        }
-        return h;
+        return each;
     }
 }
