@@ -97,6 +97,10 @@ public final class LanguageTest {
             check.isTrue("not in the code: " + word, !java.util.regex.Pattern.compile(word).matcher(code).find());
         }
         check.isTrue("imports", code.replace("import java.util.Arrays;", "").indexOf("import") < 0);
+        // all rows are made with the object, so that no run of calls can fill the room
+        for (String l : code.split("\n")) {
+            check.isTrue("made but once: " + l.trim(), !l.contains("new ") || l.contains(" final ") && l.contains(" = new "));
+        }
         int start = -1;
         int line = 0;
         for (String l : source.split("\n")) {

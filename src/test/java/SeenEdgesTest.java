@@ -223,6 +223,13 @@ public final class SeenEdgesTest {
         check.of("27 ask: the greatest number is least: 4 of 8 is ahead of 6 and of 8");
         check.due("the last of twelve", Check.canton("", "a0;a0;a0;a0;a0;a3;a0;a0;a0;a0;a0;a1").ask(), 11);
         check.due("2 of 8", Check.canton("", "a0;a3").ask(), 1);
+        check.of("27 ask: all of 0 to 7 are counted, whether it is PASSED by all or by none");
+        FoolVotes idle = Check.canton("s10", "a0;b1");
+        idle.fool(1, 0);
+        check.due("by none, by all: 8 and 8", idle.ask(), 0);
+        idle = Check.canton("s10", "a1;b0");
+        idle.fool(1, 0);
+        check.due("by all, by none: 8 and 8", idle.ask(), 0);
         check.of("27 ask: of like ones the least, not the first by turn");
         check.due("like ones", Check.canton("", "x1;a2;b4").ask(), 0);
         check.of("27 ask: of those of HEART alone; one left tells nothing more");

@@ -19,6 +19,7 @@ public final class SheetEdgesTest {
         count();
         digestOfNothing();
         digestWraps();
+        digestParts();
         check.end("SheetEdgesTest");
     }
 
@@ -409,5 +410,33 @@ public final class SheetEdgesTest {
         check.due("digest", y.digest(), folded(0, 1, 0, 2, 8, 0, 0, 0, -1, -1,
             0, 1, 0, 0, 2, 0, 0, -1, -1, 214358881L, 4294967296L,
             0, 0, 0, 0, -1, -1, -1, -1, 0, 0, 0, -1, 255, 255, 0, y.ages(7, 9, 0), y.ages(7, 9, 1)));
+    }
+
+    private static void digestIs(String name, FoolVotes x) {
+        long[] parts = SheetsTest.partsOfDigest(x).stream().mapToLong(e -> e).toArray();
+        check.due(name, x.digest(), folded(parts));
+    }
+
+    private static void digestParts() {
+        check.of("37 digest: ages(7, 9), no other seed, not one MEASURE less or more");
+        FoolVotes x = Check.canton("s00;s52", "");
+        x.fool(0, 7);
+        x.fool(1, 6);
+        for (int what = 0; what < 2; what++) {
+            int nine = x.ages(7, 9, what);
+            int[] others = {x.ages(7, 8, what), x.ages(7, 10, what), x.ages(6, 9, what), x.ages(8, 9, what)};
+            for (int other : others) {
+                check.isTrue("this canton tells them apart", other != nine);
+            }
+        }
+        digestIs("digest", x);
+        check.of("37 digest: spare(0) is the first of two, not the second");
+        FoolVotes y = Check.canton("s12;s00;s00", "a1");
+        y.event(0, 5, 0);
+        y.event(1, 0, 0);
+        y.event(1, 0, 0);
+        check.due("the first", y.spare(0), 1);
+        check.due("the second", y.spare(1), 2);
+        digestIs("digest", y);
     }
 }

@@ -15,6 +15,8 @@ public final class VoteEdgesTest {
         whoIsFor();
         weathercocks();
         withTheMost();
+        saidAtTheEnds();
+        ayesAndNoes();
         passed();
         decided();
         grudges();
@@ -271,6 +273,35 @@ public final class VoteEdgesTest {
         x.fool(0, foolLikes);
         x.fool(1, weight);
         return x;
+    }
+
+    private static void saidAtTheEnds() {
+        check.of("12 said: no 0, aye 1, HUSHED 2, by the first and the last of eight on the first and the last of twelve");
+        FoolVotes x = Check.canton("s10;s00;s00;s00;s00;s00;s00;s60", "a1;b0;b0;b0;b0;b0;b0;b0;b0;b0;b0;x6");
+        check.due("said(0, 0)", x.said(0, 0), 1);
+        check.due("said(0, 7)", x.said(0, 7), 0);
+        check.due("said(11, 0)", x.said(11, 0), 0);
+        check.due("said(11, 7)", x.said(11, 7), 1);
+        x.event(2, 0, 7);
+        x.event(2, 23, 0);
+        check.due("said(0, 0)", x.said(0, 0), 1);
+        check.due("said(0, 7)", x.said(0, 7), 2);
+        check.due("said(11, 0)", x.said(11, 0), 2);
+        check.due("said(11, 7)", x.said(11, 7), 1);
+    }
+
+    private static void ayesAndNoes() {
+        check.of("13 tally: ayes and noes of VOTERS, 0 to 8, his WEIGHT in neither, nor who is HUSHED");
+        for (int ayes = 0; ayes <= 8; ayes++) {
+            for (int noes = 0; ayes + noes <= 8; noes++) {
+                FoolVotes x = ayesAndNoes(ayes, noes, 1, 9);
+                check.due("ayes", x.tally(0, 0), ayes);
+                check.due("noes", x.tally(0, 1), noes);
+                x.event(2, 0, 0);
+                check.due("ayes but the first", x.tally(0, 0), ayes > 0 ? ayes - 1 : 0);
+                check.due("noes but the first", x.tally(0, 1), ayes == 0 && noes > 0 ? noes - 1 : noes);
+            }
+        }
     }
 
     private static void passed() {
