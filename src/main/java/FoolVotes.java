@@ -324,17 +324,17 @@ public final class FoolVotes {
             return BAD;
         }
         int all = told.eventBits();
-        if (keepsCoats(all)) {
+        if (keepsCoats(outcomeOf(all))) {
             return i == NONE ? 0 : NONE;
         }
         for (int a = 0; a < told.events; a++) {
-            if (keepsCoats(all & ~(1 << a))) {
+            if (keepsCoats(outcomeOf(all & ~(1 << a)))) {
                 return spared(i, 1, a, NONE);
             }
         }
         for (int a = 0; a < told.events; a++) {
             for (int b = a + 1; b < told.events; b++) {
-                if (keepsCoats(all & ~(1 << a) & ~(1 << b))) {
+                if (keepsCoats(outcomeOf(all & ~(1 << a) & ~(1 << b)))) {
                     return spared(i, 2, a, b);
                 }
             }
@@ -554,7 +554,18 @@ public final class FoolVotes {
         h = 31 * h + level();
         h = 31 * h + loyal();
         h = 31 * h + bitter();
-        return withTrials(h);
+        for (int what = 0; what < 3; what++) {
+            h = 31 * h + swap(what);
+        }
+        h = 31 * h + wish(0);
+        h = 31 * h + wish(1);
+        h = 31 * h + spare(NONE);
+        h = 31 * h + spare(0);
+        h = 31 * h + might(0);
+        h = 31 * h + might(1);
+        h = 31 * h + ask();
+        h = 31 * h + ages(7, 9, 0);
+        return 31 * h + ages(7, 9, 1);
     }
 
     private long withMeasure(long before, int m) {
@@ -583,22 +594,6 @@ public final class FoolVotes {
         }
         h = 31 * h + was(v, 0);
         return 31 * h + was(v, 1);
-    }
-
-    private long withTrials(long before) {
-        long h = before;
-        for (int what = 0; what < 3; what++) {
-            h = 31 * h + swap(what);
-        }
-        h = 31 * h + wish(0);
-        h = 31 * h + wish(1);
-        h = 31 * h + spare(NONE);
-        h = 31 * h + spare(0);
-        h = 31 * h + might(0);
-        h = 31 * h + might(1);
-        h = 31 * h + ask();
-        h = 31 * h + ages(7, 9, 0);
-        return 31 * h + ages(7, 9, 1);
     }
 
     private static boolean below(int number, int bound) {
@@ -676,8 +671,8 @@ public final class FoolVotes {
         return outcomes[set];
     }
 
-    private boolean keepsCoats(int held) {
-        return (outcomeOf(held) & COAT_BIT) == 0;
+    private static boolean keepsCoats(int outcome) {
+        return (outcome & COAT_BIT) == 0;
     }
 
     private static int spared(int i, int howMany, int first, int other) {

@@ -5,8 +5,12 @@ import java.lang.reflect.Modifier;
 import java.nio.file.Files;
 import java.nio.file.Path;
 import java.util.Arrays;
+import java.util.Map;
 import java.util.Set;
+import java.util.TreeMap;
 import java.util.TreeSet;
+import java.util.regex.Matcher;
+import java.util.regex.Pattern;
 
 /** The rules of LANGUAGE.md that can be looked at: the face, the words, and that no call ever throws. */
 public final class LanguageTest {
@@ -29,6 +33,7 @@ public final class LanguageTest {
         methods();
         nothingElseIsSeen();
         words();
+        depthOfCalls();
         neverThrows();
         check.end("LanguageTest");
     }
@@ -85,16 +90,24 @@ public final class LanguageTest {
         check.isTrue("twelve classes at most", FoolVotes.class.getDeclaredClasses().length < 12);
     }
 
+    private static String source() throws Exception {
+        return Files.readString(Path.of("src/main/java/FoolVotes.java"));
+    }
+
+    private static String withoutComments(String source) {
+        return source.replaceAll("(?s)/\\*.*?\\*/", "").replaceAll("//[^\n]*", "");
+    }
+
     private static void words() throws Exception {
-        String source = Files.readString(Path.of("src/main/java/FoolVotes.java"));
-        String code = source.replaceAll("(?s)/\\*.*?\\*/", "").replaceAll("//[^\n]*", "");
+        String source = source();
+        String code = withoutComments(source);
         String[] none = {
             "\\bthrow\\b", "\\bthrows\\b", "\\btry\\b", "\\bcatch\\b", "\\bsynchronized\\b", "\\bassert\\b", "->", "::",
             "Exact\\(", "\\bpackage\\b", "\"", "\\bThread\\b", "\\bSystem\\.(?!arraycopy)", "\\bRandom\\b", "\\bvar\\b",
             "MIN_VALUE", "MAX_VALUE", "\\bObject\\b", "\\bprotected\\b",
         };
         for (String word : none) {
-            check.isTrue("not in the code: " + word, !java.util.regex.Pattern.compile(word).matcher(code).find());
+            check.isTrue("not in the code: " + word, !Pattern.compile(word).matcher(code).find());
         }
         check.isTrue("imports", code.replace("import java.util.Arrays;", "").indexOf("import") < 0);
         // all rows are made with the object, so that no run of calls can fill the room
@@ -113,6 +126,55 @@ public final class LanguageTest {
                 start = -1;
             }
         }
+    }
+
+    /** Each method's body by its name; names are told apart by no class, so none may be there twice. */
+    private static Map<String, String> bodies() throws Exception {
+        Pattern head = Pattern.compile("( {4,8})(?:[a-z]+ )*[\\w\\[\\]]+ (\\w+)\\([^)]*\\) \\{");
+        Map<String, String> bodies = new TreeMap<>();
+        String name = "";
+        String indent = "";
+        for (String l : withoutComments(source()).split("\n")) {
+            Matcher m = head.matcher(l);
+            if (name.isEmpty() && m.matches()) {
+                indent = m.group(1);
+                name = m.group(2);
+                check.isTrue("one method alone is named " + name, bodies.put(name, "") == null);
+            } else if (l.equals(indent + "}")) {
+                name = "";
+            } else if (!name.isEmpty()) {
+                bodies.put(name, bodies.get(name) + l + "\n");
+            }
+        }
+        return bodies;
+    }
+
+    private static void depthOfCalls() throws Exception {
+        Map<String, String> bodies = bodies();
+        for (Method m : FoolVotes.class.getDeclaredMethods()) {
+            check.isTrue(m.getName() + " is found in the source", bodies.containsKey(m.getName()));
+        }
+        int deepest = 0;
+        for (String name : bodies.keySet()) {
+            int depth = depthOf(name, bodies, 1);
+            deepest = Math.max(deepest, depth);
+            check.isTrue(name + " goes " + depth + " deep, eight at most", depth <= 8);
+        }
+        check.isTrue("some calls go deeper than two: " + deepest, deepest > 2);
+    }
+
+    /** A call that comes back to where it was would go past eight as well. */
+    private static int depthOf(String name, Map<String, String> bodies, int above) {
+        int deepest = 0;
+        for (String other : bodies.keySet()) {
+            boolean calls = Pattern.compile("\\b" + other + "\\(").matcher(bodies.get(name)).find();
+            if (calls && above <= 8) {
+                deepest = Math.max(deepest, depthOf(other, bodies, above + 1));
+            } else if (calls) {
+                deepest = Math.max(deepest, 1);
+            }
+        }
+        return 1 + deepest;
     }
 
     private static FoolVotes full() {
